@@ -14,6 +14,8 @@ public final class SendingTest {
         reserveCountsAllUnits();
         reserveTakesTheLowThatMatterMost();
         reserveBoundNeedsInsteadOfUnbound();
+        reserveSparesFewerThanUnbound();
+        unboundAloneMayBeTooMany();
         reserveCountsFixedUnits();
         brokenUnitsAreNoReserve();
         savedEnoughOrNot();
@@ -159,6 +161,29 @@ public final class SendingTest {
         units("more unbound ones than are spare", z, "01xx");
     }
 
+    private static void reserveSparesFewerThanUnbound() {
+        // three needs of rank 5 that one unit alone can fill, and a bound one that two others can
+        int[][] seconds = {{3, 3, 3, -1}, {-1, -1, -1, 4}, {-1, -1, -1, 2}, {-1, -1, -1, -1}};
+        SendBest x = Worlds.table(new int[] {5, 5, 5, 4}, seconds);
+        x.reserve(2, 5);
+        check.due("10: two units spared", x.send(0), 2);
+        units("the bound one too", x, "0xx2");
+        x.reserve(3, 5);
+        check.due("10: one unit spared", x.send(0), 1);
+        units("not the bound one", x, "0xxx");
+    }
+
+    private static void unboundAloneMayBeTooMany() {
+        SendBest x = Worlds.table(new int[] {9, 9}, new int[][] {{5, 5}, {5, 5}, {-1, -1}});
+        x.reserve(3, 9);
+        check.due("10: both in spite of the reserve", x.send(0), 2);
+        x.seconds(2, 0, 1);
+        x.send(37);
+        units("a plan still, so it stays", x, "01");
+        x.send(36);
+        units("36 saved of 36", x, "20");
+    }
+
     private static void reserveCountsFixedUnits() {
         SendBest x = Worlds.table(new int[] {2, 2, 2}, new int[][] {{1, 9, 9}, {9, 1, 9}, {9, 9, 1}});
         x.send(0);
@@ -298,6 +323,8 @@ public final class SendingTest {
         check.due("10: ten needs", x.send(0), 10);
         check.due("10: the largest sum", x.sum(1), 8999910);
         units("ten needs, twelve units", x, "0123456789");
+        check.due("10: never(0)", x.never(0), -1);
+        check.due("10: alternative(9)", x.alternative(9), 10);
         x.seconds(11, 0, 0);
         x.send(899991);
         units("a unit much nearer, the lowest before it", x, "012345678b");

@@ -14,6 +14,7 @@ public final class SettingUpTest {
         need();
         needInOrder();
         seconds();
+        noSecondsAtFirst();
         limit();
         reserve();
         objectsAreApart();
@@ -172,6 +173,20 @@ public final class SettingUpTest {
         check.due("6: send(0) without seconds", x.send(0), 1);
         x.close(1);
         x.seconds(1, 1, 5);
+    }
+
+    private static void noSecondsAtFirst() {
+        SendBest x = new SendBest();
+        for (int i = 0; i < 6; i++) {
+            x.incident(1);
+            x.need(i, 0, 1);
+        }
+        for (int u = 0; u < 12; u++) {
+            x.unit(65535);
+        }
+        check.due("6: none at first, send(0)", x.send(0), 0);
+        check.due("6: none at first, never(5)", x.never(5), 5);
+        check.due("6: none at first, alternative(5)", x.alternative(5), -1);
     }
 
     private static void limit() {
