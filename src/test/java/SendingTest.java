@@ -71,19 +71,25 @@ public final class SendingTest {
         units("the least in all", x, "210");
     }
 
+    /** Need d can have unit d - 1 soon and unit d late; only when all have the late one, all have one. */
     private static void fillsByALongPath() {
-        int[][] seconds = new int[6][6];
-        for (int u = 0; u < 6; u++) {
-            for (int i = 0; i < 6; i++) {
-                seconds[u][i] = i == u || i == u + 1 ? 10 + (i == u ? 50 : 0) : -1;
-            }
+        SendBest x = new SendBest();
+        x.incident(1);
+        x.incident(1);
+        for (int d = 0; d < 10; d++) {
+            x.need(d % 2, d, 1);
+            x.unit(3 << d);
+            x.seconds(d, d % 2, 60);
+            x.seconds(d, 1 - d % 2, 10);
         }
-        SendBest x = Worlds.table(new int[] {1, 1, 1, 1, 1, 1}, seconds);
-        check.due("10: all needs", x.send(0), 6);
-        units("a chain", x, "012345");
+        check.due("10: all needs", x.send(0), 10);
+        units("a chain", x, "0123456789");
         x.broken(0, true);
-        check.due("10: all but one", x.send(0), 5);
-        units("a shorter chain", x, "x12345");
+        check.due("10: all but one", x.send(0), 9);
+        units("a shorter chain", x, "x123456789");
+        x.broken(5, true);
+        check.due("10: two chains", x.send(0), 8);
+        units("the sooner ones of the first chain", x, "xx12346789");
     }
 
     private static void lowestUnitsByNeeds() {
