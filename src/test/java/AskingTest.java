@@ -9,7 +9,10 @@ public final class AskingTest {
         sumOfLostSeconds();
         alternative();
         alternativeOfAbleOnes();
+        alternativeOfTheLeast();
+        alternativeInSpiteOfTheReserve();
         never();
+        neverOfAFilledNeed();
         check.end();
     }
 
@@ -113,6 +116,44 @@ public final class AskingTest {
         check.due("17: with seconds", x.alternative(0), 1);
     }
 
+    private static void alternativeOfTheLeast() {
+        SendBest x = Worlds.table(new int[] {1}, new int[][] {{99999}});
+        check.due("17: 99999 seconds", x.alternative(0), 0);
+        for (int u = 1; u < 12; u++) {
+            x.unit(1);
+            x.seconds(u, 0, 99999 - u);
+            check.due("17: one second less", x.alternative(0), u);
+        }
+        x.seconds(5, 0, 0);
+        check.due("17: 0 seconds", x.alternative(0), 5);
+        x.seconds(11, 0, 0);
+        check.due("17: a higher one with as many", x.alternative(0), 5);
+        x.seconds(0, 0, 0);
+        check.due("17: a lower one with as many", x.alternative(0), 0);
+        x.limit(0, 0);
+        check.due("17: at the limit", x.alternative(0), 0);
+        x.broken(0, true);
+        check.due("17: the next of the least", x.alternative(0), 5);
+        x.send(0);
+        check.due("17: another than its own", x.alternative(0), 11);
+        x.stay(5, true);
+        check.due("17: of one whose unit stays", x.alternative(0), 11);
+        x.broken(11, true);
+        check.due("17: none at the limit", x.alternative(0), -1);
+        x.limit(0, 99988);
+        check.due("17: none below the limit", x.alternative(0), -1);
+        x.limit(0, 99989);
+        check.due("17: one at the limit", x.alternative(0), 10);
+    }
+
+    private static void alternativeInSpiteOfTheReserve() {
+        SendBest x = Worlds.table(new int[] {1}, new int[][] {{4}});
+        x.reserve(12, 10);
+        check.due("17: all are the reserve, send(0)", x.send(0), 0);
+        check.due("17: it could take it over", x.alternative(0), 0);
+        check.due("18: it can", x.never(0), -1);
+    }
+
     private static void never() {
         SendBest x = Worlds.table(new int[] {1, 2, 3, 4}, new int[][] {{1, -1, -1, -1}});
         check.range("18: never(-1)", () -> x.never(-1));
@@ -132,5 +173,19 @@ public final class AskingTest {
         check.due("18: at the limit", x.never(0), 1);
         x.need(0, 1, 1);
         check.due("18: not without the skill", x.never(2), 4);
+    }
+
+    private static void neverOfAFilledNeed() {
+        SendBest x = Worlds.table(new int[] {1, 1}, new int[][] {{4, -1}, {-1, 4}});
+        x.send(0);
+        x.seconds(1, 1, -1);
+        check.due("18: its unit can't any more", x.never(0), 1);
+        check.due("18: it has it still", x.needAt(1, 2), 1);
+        x.seconds(0, 1, 9);
+        check.due("18: one that fills another can", x.never(0), -1);
+        x.broken(0, true);
+        check.due("18: a broken one can't", x.never(0), 0);
+        check.due("18: nor for the other", x.never(1), 1);
+        check.due("18: there are two", x.never(2), -1);
     }
 }

@@ -5,11 +5,13 @@ public final class ChangingTest {
     public static void main(String[] args) {
         broken();
         brokenEndsStay();
+        brokenKeepsTheRest();
         stay();
         stayEndsWithItsNeed();
         recall();
         close();
         closeEndsStay();
+        closeFreesAll();
         check.end();
     }
 
@@ -44,6 +46,23 @@ public final class ChangingTest {
         x.send(0);
         check.state("9: stay(0, false), sent anew", () -> x.stay(0, false));
         x.stay(0, true);
+    }
+
+    private static void brokenKeepsTheRest() {
+        SendBest x = Worlds.oneToOne(2, 3);
+        x.broken(0, true);
+        x.seconds(0, 0, 77);
+        x.seconds(0, 1, 5);
+        check.due("9: a broken one is not sent", x.send(0), 1);
+        check.state("11: a broken one fills none", () -> x.stay(0, true));
+        check.state("12: a broken one fills none", () -> x.recall(0));
+        x.broken(0, false);
+        check.due("9: seconds told while it was broken", x.alternative(1), 0);
+        x.send(0);
+        check.due("9: sum(1)", x.sum(1), 3 * 77 + 30);
+        x.broken(0, true);
+        x.broken(0, false);
+        check.due("9: the same again", x.alternative(0), 0);
     }
 
     private static void stay() {
@@ -132,5 +151,34 @@ public final class ChangingTest {
         x.send(0);
         check.due("13: sent to the other", x.fills(0), 1);
         check.state("13: it does not stay", () -> x.stay(0, false));
+    }
+
+    private static void closeFreesAll() {
+        SendBest x = new SendBest();
+        x.incident(3);
+        x.need(0, 0, 9);
+        x.incident(9);
+        x.need(1, 0, 1);
+        for (int u = 0; u < 12; u++) {
+            x.unit(1);
+            x.seconds(u, 0, 1);
+            x.seconds(u, 1, 1);
+        }
+        x.send(0);
+        x.stay(0, true);
+        x.stay(8, true);
+        x.stay(9, true);
+        x.close(0);
+        for (int u = 0; u < 9; u++) {
+            check.due("13: fills(" + u + ")", x.fills(u), -1);
+            check.due("13: needAt(" + u + ", 2)", x.needAt(u, 2), -1);
+        }
+        check.due("13: the other's unit", x.fills(9), 9);
+        check.state("13: it stays", () -> x.stay(9, true));
+        check.due("13: send(0)", x.send(0), 1);
+        check.due("13: sum(1)", x.sum(1), 9);
+        x.seconds(9, 0, 0);
+        check.state("13: no needs more", () -> x.need(0, 0, 0));
+        check.state("13: no other rank", () -> x.rank(0, 1));
     }
 }

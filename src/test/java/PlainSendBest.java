@@ -1,8 +1,6 @@
 import java.util.ArrayList;
 import java.util.Arrays;
-import java.util.HashMap;
 import java.util.List;
-import java.util.Map;
 
 /**
  * The document in its plainest form, to compare with: small worlds by going through every plan, large
@@ -145,6 +143,10 @@ final class PlainSendBest {
         state(fills(unit) >= 0);
         state(units.get(unit).stays != on);
         units.get(unit).stays = on;
+    }
+
+    boolean isToldToStay(int unit) {
+        return units.get(unit).stays;
     }
 
     void recall(int unit) {
@@ -376,7 +378,6 @@ final class PlainSendBest {
             tryAll(0);
         } else {
             ways[1]++;
-            rests = new HashMap<>();
             followBestRests();
         }
     }
@@ -411,24 +412,25 @@ final class PlainSendBest {
         return false;
     }
 
-    private Map<Integer, Long> rests;
+    private static final int SETS = 1 << 12;
+    private final long[] rests = new long[11 * SETS];
 
     /** Ranks times 10 to the 9th and weighted seconds of the best way to go on from a need with units used. */
     private long rest(int p, int used) {
         if (p == trial.length) {
             return 0;
         }
-        int key = p << 12 | used;
-        Long had = rests.get(key);
-        if (had != null) {
-            return had;
+        int key = p * SETS + used;
+        if (rests[key] < 0) {
+            long least = price(p, -1) + rest(p + 1, used);
+            for (int u : able.get(p)) {
+                if (isFree(p, u, used)) {
+                    least = Math.min(least, price(p, u) + rest(p + 1, used | 1 << u));
+                }
+            }
+            rests[key] = least;
         }
-        long least = Long.MAX_VALUE;
-        for (int u : choices(p, used)) {
-            least = Math.min(least, price(p, u) + rest(p + 1, u < 0 ? used : used | 1 << u));
-        }
-        rests.put(key, least);
-        return least;
+        return rests[key];
     }
 
     private long price(int p, int u) {
@@ -436,30 +438,27 @@ final class PlainSendBest {
         return u < 0 ? rankOf(need) * 1_000_000_000L : (long) rankOf(need) * secondsOf(u, need);
     }
 
-    private List<Integer> choices(int p, int used) {
-        List<Integer> list = new ArrayList<>();
+    private boolean isFree(int p, int u, int used) {
         boolean tooMany = rankOf(order.get(p)) < reserveRank && fixedCount + Integer.bitCount(used) + 1 > cap;
-        for (int u : able.get(p)) {
-            if (!tooMany && (used & 1 << u) == 0) {
-                list.add(u);
-            }
-        }
-        list.add(-1);
-        return list;
+        return !tooMany && (used & 1 << u) == 0;
     }
 
     private void followBestRests() {
+        Arrays.fill(rests, -1);
         int used = 0;
         for (int p = 0; p < trial.length; p++) {
-            for (int u : choices(p, used)) {
-                int then = u < 0 ? used : used | 1 << u;
-                if (price(p, u) + rest(p + 1, then) == rest(p, used)) {
-                    trial[p] = u;
-                    used = then;
-                    break;
-                }
-            }
+            trial[p] = lowestOfBest(p, used);
+            used |= trial[p] < 0 ? 0 : 1 << trial[p];
         }
         best = trial;
+    }
+
+    private int lowestOfBest(int p, int used) {
+        for (int u : able.get(p)) {
+            if (isFree(p, u, used) && price(p, u) + rest(p + 1, used | 1 << u) == rest(p, used)) {
+                return u;
+            }
+        }
+        return -1;
     }
 }
